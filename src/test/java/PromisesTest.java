@@ -354,6 +354,9 @@ public final class PromisesTest {
         due("law brackets", paid("pay 1 when (1=1 or 1=1) and 1=2;"), 0);
         due("law not binds one", paid("pay 1 when not 1=2 and 1=2;"), 0);
         due("law not of brackets", paid("pay 1 when not (1=2 and 1=2);"), 1);
+        due("law not so", paid("pay 1 when not 1=1;"), 0);
+        due("law not less", paid("pay 1 when 1<1;"), 0);
+        due("law not more", paid("pay 1 when 1>1;"), 0);
         due("law not not", paid("pay 1 when not not 1=1;"), 1);
         due("law sums compared", paid("pay 1 when 1+2*3=7 and 9-1>7 and 2*2<4+1;"), 1);
         DrinkingRoofs x = new DrinkingRoofs();
@@ -368,6 +371,12 @@ public final class PromisesTest {
         law(x, "");
         x.comes(0);
         due("law empty", x.of(0, 10), -4);
+        x.house(10, 9999, 0, 0);
+        x.house(10, 9999, 0, 0);
+        law(x, "pay far;");
+        x.comes(0);
+        due("law far from two", x.of(3, 10), -2 - 1);
+        due("law far from one above", x.of(2, 10), -1);
     }
 
     private static void promise12Of() {
@@ -525,6 +534,20 @@ public final class PromisesTest {
         due("16 storm below", x.gutters(-1, 0), NONE);
     }
 
+    /** Houses 0 and 1 are always wet; house 2 stays dry if one of them or both are clogged. */
+    private static int leastSetOfThree() {
+        DrinkingRoofs x = new DrinkingRoofs();
+        x.house(10, 50, 0, 0);
+        x.house(10, 50, 0, 0);
+        x.house(1, 60, 0, 0);
+        x.next(0, 2);
+        x.next(1, 2);
+        rain(x, 10);
+        due("17 three ways", x.stains(3, 0), 3);
+        due("17 none in all three", x.stains(3, 3), 0);
+        return x.stains(3, 2);
+    }
+
     private static void promise17Stains() {
         DrinkingRoofs x = new DrinkingRoofs();
         due("17 nothing", x.stains(0, 0), 0);
@@ -556,6 +579,7 @@ public final class PromisesTest {
         due("17 lower alone", x.stains(2, 2), 2);
         x.fall(0, 0, 0, false);
         due("17 least storm", x.stains(2, 1), 1);
+        due("17 least set", leastSetOfThree(), 1);
         due("17 no set", x.stains(4, 0), -2);
         due("17 below", x.stains(-1, 0), -2);
         due("17 another", x.stains(0, 4), -2);
@@ -593,6 +617,19 @@ public final class PromisesTest {
         due("18 behind", x.drain(1), NONE);
     }
 
+    /** House 0 empties on house 2, past the place of the new one. */
+    private static int addedBeside() {
+        DrinkingRoofs x = new DrinkingRoofs();
+        x.house(10, 100, 0, 0);
+        x.house(10, 100, 0, 0);
+        x.house(10, 220, 0, 0);
+        x.next(0, 2);
+        rain(x, 10);
+        // The new one brings 80 to house 1, whose gutter is full already.
+        due("19 on house 2", x.added(2, 1, 300, 0), 0);
+        return x.added(1, 8, 100, 0);
+    }
+
     private static void promise19Added() {
         DrinkingRoofs x = new DrinkingRoofs();
         due("19 no storm", x.added(0, 1, 1, 0), NOTHING);
@@ -605,6 +642,7 @@ public final class PromisesTest {
         due("19 between", x.added(1, 10, 200, 0), 50);
         due("19 between, narrow", x.added(1, 10, 120, 0), 80);
         due("19 at the end", x.added(2, 10, 70, 0), 30);
+        due("19 gutters past it", addedBeside(), 80);
         x.tell(0, 0, 5);
         x.tell(1, 3, 50);
         due("19 clogs and barrels as now", x.added(1, 10, 200, 0), 0);
