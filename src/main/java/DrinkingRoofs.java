@@ -1033,7 +1033,11 @@ public final class DrinkingRoofs {
                     takeCase(kind);
                     break;
                 case BEHIND_UNIT:
-                    takeBehindUnit(kind);
+                    if (side == SIDE_RIGHT && !within(kind, PLUS, PART)) {
+                        takeBehindCase(kind);
+                    } else {
+                        takeBehindUnit(kind);
+                    }
                     break;
                 default:
                     takeBehindCase(kind);
@@ -1106,8 +1110,6 @@ public final class DrinkingRoofs {
                 if (kind == STOP) {
                     closeLine();
                 }
-            } else if (side == SIDE_RIGHT) {
-                takeBehindCase(kind);
             } else {
                 fault = FAULT_MISPLACED;
             }
