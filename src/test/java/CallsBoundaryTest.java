@@ -302,6 +302,10 @@ public final class CallsBoundaryTest {
         due.is("9 shorter than before", Due.law(x, "pay 1 when 1=2;"), 1);
         x.comes(0);
         due.is("9 nothing of the old is left", x.of(0, 10), 18);
+        Due.law(x, "pay 2 when not 1=1;");
+        Due.law(x, "pay 2 when 1=1;");
+        x.comes(0);
+        due.is("9 nor its not", x.of(0, 10), 20);
     }
 
     private static void longTexts() {
@@ -660,6 +664,26 @@ public final class CallsBoundaryTest {
         due.is("20 came", x.look(5), 2);
     }
 
+    /** Houses that are gone with the image are no part of what is thought. */
+    private static void imageForgetsHouses() {
+        DrinkingRoofs x = Due.one(10, 100);
+        Due.rain(x, 10);
+        x.image(true);
+        x.house(10, 200, 0, 7);
+        x.next(0, 1);
+        x.tell(1, 0, 10);
+        due.is("20 two houses, cleanings", x.cleanings(0, NONE, NONE, NONE, 10), 2);
+        due.is("20 two houses, price", x.gutters(0, 0), 0);
+        due.is("20 two houses, a drain", x.drain(0), 0);
+        due.is("20 two houses, stains", x.stains(2, 0), 1);
+        x.image(false);
+        due.is("20 one house, cleanings", x.cleanings(0, NONE, NONE, NONE, 0), 0);
+        due.is("20 one house, price", x.gutters(0, 0), 0);
+        due.is("20 one house, no drain", x.drain(0), NONE);
+        due.is("20 one house, no such stains", x.stains(2, 0), -2);
+        due.is("20 one house, added at the end", x.added(1, 1, 9, 0), 1);
+    }
+
     private static void imageTakenAgain() {
         DrinkingRoofs x = Due.street();
         x.image(true);
@@ -783,6 +807,7 @@ public final class CallsBoundaryTest {
         image();
         imageOfNothing();
         imageOfFigures();
+        imageForgetsHouses();
         imageTakenAgain();
         imageLeavesTapeAndFault();
         look();

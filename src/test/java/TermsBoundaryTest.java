@@ -525,19 +525,22 @@ public final class TermsBoundaryTest {
 
     /** A fault leaves nothing open for the next text. */
     private static void readsAfterFaults() {
-        DrinkingRoofs x = Due.many(2, 10, 50);
-        x.tell(0, 1, 0);
-        Due.rain(x, 5);
         String[] faults = {"pay 1 when ((((((((1=1", "pay 1 when not not not not not not not 1*1+",
             "pay 1 when (1=2 or 1=1 and not", "pay 1-2*", "pay 1;pay 2;pay 3-"};
-        for (int i = 0; i < faults.length; i++) {
-            due.is("a fault", Due.law(x, faults[i]), NONE);
-            due.is("no bracket is open", Due.law(x, "pay 1 when 1=1);"), NONE);
-            due.is("eight may be", Due.law(x, "pay 3 when not(not(not(not(1=1))));"), 1);
-            due.is("a fault again", Due.law(x, faults[i]), NONE);
+        for (String fault : faults) {
+            DrinkingRoofs x = Due.many(2, 10, 50);
+            x.tell(0, 1, 0);
+            Due.rain(x, 5);
+            due.is("a fault", Due.law(x, fault), NONE);
             due.is("one line", Due.law(x, "pay 2+3*1;"), 1);
             x.comes(0);
-            due.is("nothing of the fault is paid", x.of(0, 10), 5 * (i + 1));
+            due.is("nothing of the fault is paid", x.of(0, 10), 5);
+            due.is("a fault again", Due.law(x, fault), NONE);
+            due.is("no bracket is open", Due.law(x, "pay 1 when 1=1);"), NONE);
+            due.is("and again", Due.law(x, fault), NONE);
+            due.is("eight may be", Due.law(x, "pay 3 when not(not(not(not(1=1))));"), 1);
+            x.comes(0);
+            due.is("nothing of it is asked", x.of(0, 10), 8);
         }
     }
 
@@ -571,6 +574,40 @@ public final class TermsBoundaryTest {
         faultIs("pay 1:;", 1, 5);
         faultIs("pay 1?;", 1, 5);
         faultIs("pay 1.5;", 1, 5);
+    }
+
+    /** Each token behind each beginning: what may not stand there is a fault at its place. */
+    private static void whatCanStand() {
+        String sums = " + - * / ";
+        String units = " 7 wet clog own near far above area held ";
+        String[][] behind = {
+            {"", " pay "}, {"pay 1;", " pay "}, {"pay 1 when 1=1;", " pay "},
+            {"pay", units}, {"pay 1+", units}, {"pay 1-", units}, {"pay 1*", units},
+            {"pay 1/", " 7 "}, {"pay 1", sums + "when ; "}, {"pay wet", sums + "when ; "},
+            {"pay 1/2", sums + "when ; "}, {"pay 1 when", units + "not ( "},
+            {"pay 1 when not", units + "not ( "}, {"pay 1 when (", units + "not ( "},
+            {"pay 1 when 1=1 and", units + "not ( "}, {"pay 1 when 1=1 or", units + "not ( "},
+            {"pay 1 when 1", sums + "< = > "}, {"pay 1 when not wet", sums + "< = > "},
+            {"pay 1 when (1/2", sums + "< = > "}, {"pay 1 when 1<", units},
+            {"pay 1 when 1=", units}, {"pay 1 when 1>", units}, {"pay 1 when 1=1+", units},
+            {"pay 1 when 1=1/", " 7 "}, {"pay 1 when 1=1", sums + "and or ; "},
+            {"pay 1 when not 1=1", sums + "and or ; "}, {"pay 1 when (1=1", sums + "and or ) "},
+            {"pay 1 when (not 1=1", sums + "and or ) "}, {"pay 1 when (1=1)", " and or ; "},
+            {"pay 1 when ((1=1)", " and or ) "}, {"pay 1 when not (1=1)", " and or ; "}};
+        String tokens = "pay when or and not wet clog own near far above area held 7 12345 up ; + - * /"
+            + " ( ) < = > ! & |";
+        for (String[] row : behind) {
+            for (String token : tokens.split(" ")) {
+                String text = row[0] + " " + token;
+                if (row[1].contains(" " + token + " ")) {
+                    DrinkingRoofs x = Due.street();
+                    boolean read = Due.law(x, text) != NONE;
+                    due.is("stands: " + text, read || x.fault(1) == text.length(), true);
+                } else {
+                    faultIs(text, 1, row[0].length() + 1);
+                }
+            }
+        }
     }
 
     private static void partBy0() {
@@ -1084,6 +1121,7 @@ public final class TermsBoundaryTest {
         cutInTokens();
         readsAfterFaults();
         wordsAndNumbers();
+        whatCanStand();
         partBy0();
         sixteenLines();
         eightOpen();
